@@ -682,12 +682,12 @@ public final class CubeFolk {
             }
             int east = inCell(at + 1);
             int west = inCell(at - 1);
-            int eastern = west >= 0 ? all / 2 : all;
+            int eastern = east < 0 ? 0 : west < 0 ? all : all / 2;
             if (east >= 0) {
                 load[east] += eastern;
             }
             if (west >= 0) {
-                load[west] += east >= 0 ? all - eastern : all;
+                load[west] += all - eastern;
             }
         }
 

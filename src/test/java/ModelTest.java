@@ -23,7 +23,7 @@ public final class ModelTest {
 
     private ModelTest(long seed) {
         random = new Random(seed);
-        style = random.nextInt(8);
+        style = random.nextInt(9);
     }
 
     private static Map<String, Method> methodsOf(Class<?> c) {
@@ -296,7 +296,28 @@ public final class ModelTest {
         else call(chance(30) ? "image" : chance(5) ? "restore" : "moves");
     }
 
+    /** Few cubes with power enough; as soon as there is no room for shapes, all is as it was ahead of them. */
+    private void manyPlans() {
+        if (model.now.shapes.size() == 8) call("restore");
+        int s = shapeOfText(nearShape());
+        int most = cubes() <= 4 ? 4 : cubes() <= 6 ? 3 : 2;
+        call("plan", s, most);
+        for (int i = 0; i <= most; i++) call("planned", s, most, i);
+        for (int k = 0; k < 3; k++) aMove();
+    }
+
+    private int shapeOfText(String text) {
+        String answer = call("shape", writeText(text));
+        return answer.equals("over") ? 0 : Integer.parseInt(answer);
+    }
+
     private void run() {
+        if (style == 8) {
+            for (int k = 0, n = 3 + any(10); k < n; k++) addCube();
+            call("image");
+            while (calls < 512 && !differs) manyPlans();
+            return;
+        }
         for (int k = 0, n = 1 + any(style == 0 ? 70 : 10); k < n; k++) addCube();
         while (calls < 512 && !differs) {
             int kind = any(100);

@@ -116,6 +116,26 @@ public final class PromiseTest {
             due("load of " + c, f.about(c, 5), load[c]);
         }
         due("2 hangs", f.about(2, 10), 1);
+        CubeFolk top = folk(0, 0, 4, 0, 4, 1, 4, 2, 4, 3, 4, 4, 4, 5, 4, 6, 4, 7, 5, 7);
+        due("at the top, one hangs", top.about(8, 10), 1);
+        due("it gives to the west", top.about(7, 5), 2);
+        due("all comes down", top.about(0, 5), 16);
+        CubeFolk between = new CubeFolk();
+        due("0 is to the east", between.cube(1, 5, 0, 0), 0);
+        between.cube(1, 4, 0, 0);
+        between.cube(1, 3, 0, 0);
+        due("3 up at the east", between.cube(0, 5, 1, 0), 3);
+        between.cube(0, 3, 1, 0);
+        between.cube(0, 3, 2, 0);
+        between.cube(0, 5, 2, 0);
+        due("one hangs between", between.cube(1, 4, 2, 0), 7);
+        due("half, cut, to the east", between.about(6, 5), 1);
+        due("the rest to the west", between.about(5, 5), 2);
+        CubeFolk zero = new CubeFolk();
+        zero.cube(1, 1, 0, 0);
+        zero.cube(0, 1, 1, 0);
+        zero.cube(0, 0, 1, 0);
+        due("0 and 1 bear what hangs", zero.about(0, 5), 4);
         due("broken", f.broken(), 0);
     }
 
@@ -176,6 +196,8 @@ public final class PromiseTest {
         due("dead", f.can(0), 0);
         slides();
         turns();
+        turnsDown();
+        halfASide();
         keepsWhole();
     }
 
@@ -201,6 +223,36 @@ public final class PromiseTest {
         CubeFolk mixed = folk(2, 9, 0, 0, 0, 1, 1, 1, 2, 1, 2, 0);
         due("the ground below serves for both", mixed.can(8 * 4), 1 - 1);
         due("the ground below, under a roof", mixed.can(8 * 4 + 2), 1);
+    }
+
+    /** Cells left and come to must both have something on the same side, though another cube holds at the end. */
+    private static void halfASide() {
+        int[] arch = {0, 0, 0, 1, 0, 2, 1, 2, 1, 3, 2, 3, 3, 3, 3, 2, 3, 1, 3, 0, 1, 1};
+        CubeFolk east = folk(2, 9, arch);
+        due("a ceiling over the cell left alone", east.can(8 * 10), 0);
+        east.cube(2, 2, 2, 0);
+        due("a ceiling over both", east.can(8 * 10), 1);
+        int[] mirrored = {3, 0, 3, 1, 3, 2, 2, 2, 2, 3, 1, 3, 0, 3, 0, 2, 0, 1, 0, 0, 2, 1};
+        due("the same to the west", folk(2, 9, mirrored).can(8 * 10 + 2), 0);
+        int[] floor = {0, 0, 0, 1, 0, 2, 0, 3, 0, 4, 1, 4, 2, 4, 3, 4, 3, 3, 3, 2, 1, 1, 1, 2};
+        CubeFolk below = folk(2, 9, floor);
+        due("a floor under the cell left alone", below.can(8 * 11), 0);
+        below.cube(2, 2, 1, 0);
+        due("a floor under both", below.can(8 * 11), 1);
+        int[] shaft = {0, 0, 0, 1, 0, 2, 0, 3, 1, 3, 2, 3, 2, 2, 2, 1, 1, 0};
+        due("up a shaft from the ground", folk(2, 9, shaft).can(8 * 8 + 1), 1);
+        due("up a wall to the west, under a roof", folk(2, 9, 1, 0, 1, 1, 0, 1, 0, 2, 0, 3, 1, 3, 2, 3, 2, 0).can(8 * 7 + 1), 1);
+        due("a wall to the west of the cell left alone",
+                folk(2, 9, 1, 0, 0, 0, 0, 1, 0, 2, 1, 2, 2, 2, 2, 0).can(8 * 6 + 1), 0);
+        due("a wall to the east of the cell left alone",
+                folk(2, 9, 1, 0, 2, 0, 2, 1, 2, 2, 1, 2, 0, 2, 0, 0).can(8 * 6 + 1), 0);
+    }
+
+    /** South, then west, and south, then east, about the end of a bridge that comes from the other side. */
+    private static void turnsDown() {
+        due("south, then west", folk(2, 9, 5, 0, 5, 1, 5, 2, 5, 3, 4, 3, 3, 3, 3, 2, 4, 2).can(8 * 7 + 6), 1);
+        due("south, then east", folk(2, 9, 3, 0, 3, 1, 3, 2, 3, 3, 4, 3, 5, 3, 5, 2, 4, 2).can(8 * 7 + 7), 1);
+        due("south, then west, nothing there", folk(2, 9, 5, 0, 5, 1, 5, 2, 5, 3, 4, 3, 3, 3, 2, 3, 2, 2, 4, 2).can(8 * 8 + 6), 0);
     }
 
     private static void turns() {
@@ -286,6 +338,9 @@ public final class PromiseTest {
         }
         due("empty", faultOf("", 0), 0);
         due("x0", faultOf("bx", 0), 1);
+        due("x0 above 9", faultOf("b:000", 0), 1);
+        due("x0 below 0", faultOf("b/000", 0), 1);
+        due("x1 above 9", faultOf("b00:0", 0), 3);
         due("y0 8", faultOf("b08", 0), 2);
         due("x1 below x0", faultOf("b504", 0), 3);
         due("y1 below y0", faultOf("b5065", 0), -4);
@@ -580,6 +635,7 @@ public final class PromiseTest {
         due("not as told", f.ticks(0), -1);
         due("ticks", f.count(6), 2000);
         neighbours();
+        sides();
         sharing();
     }
 
@@ -608,6 +664,28 @@ public final class PromiseTest {
         g.gives(1, 1);
         due("the first turns over the second", g.ticks(1), 1);
         due("and the second has it to the north", g.about(1, 7), 7);
+    }
+
+    /** Each side by itself, and CUBE 0 on each: what it said, and that it is there. */
+    private static void sides() {
+        int[][] places = {{5, 0, 4, 0}, {4, 1, 4, 0}, {3, 0, 4, 0}, {4, 0, 4, 1}};
+        for (int side = 0; side < 4; side++) {
+            CubeFolk f = new CubeFolk();
+            boolean onTop = side == 1;
+            int zero = onTop ? 1 : 0;
+            f.cube(0, places[side][onTop ? 2 : 0], places[side][onTop ? 3 : 1], 0);
+            f.cube(0, places[side][onTop ? 0 : 2], places[side][onTop ? 1 : 3], 0);
+            programOf(f, "1=1?y7;");
+            for (int k = 0; k < 4; k++) {
+                programOf(f, "ENWS".charAt(k) + "=7&" + "enws".charAt(k) + "=1?=9;");
+            }
+            f.gives(zero, 0);
+            for (int k = 0; k < 4; k++) {
+                f.gives(1 - zero, k + 1);
+                f.ticks(2);
+                due("side " + side + " asked at " + k, f.about(1 - zero, 7), k >= side ? 9 : 0);
+            }
+        }
     }
 
     private static void sharing() {
