@@ -134,11 +134,12 @@ public final class CubeFolk {
         if (!now.body.has(cube)) {
             return NO_SUCH;
         }
-        if (now.log.size >= NOTES) {
-            return NO_ROOM;
-        }
+        // What changes nothing wants no room in THE LOG.
         if (now.body.dead[cube] == is) {
             return 0;
+        }
+        if (now.log.size >= NOTES) {
+            return NO_ROOM;
         }
         now.body.dead[cube] = is;
         now.log.note(cube, now.time, is);

@@ -180,8 +180,8 @@ final class Model {
 
     int dead(int cube, boolean is) {
         if (!isCube(cube)) return -1;
-        if (now.log.size() == 40) return -2;
         boolean was = now.cubes.get(cube).dead;
+        if (was != is && now.log.size() == 40) return -2;
         if (was != is) now.log.add(new Note(cube, now.ticks, is));
         now.cubes.get(cube).dead = is;
         return was != is ? 1 : 0;

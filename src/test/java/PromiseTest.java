@@ -158,10 +158,31 @@ public final class PromiseTest {
             due("change " + k, f.dead(0, k % 2 == 0), 1);
         }
         due("change 40", f.dead(0, true), -2);
+        due("no change", f.dead(0, false), 0);
+        due("no change of one that never was", f.dead(1, false), 0);
         due("it stays well", f.about(0, 4), 0);
         due("nobody still", f.dead(-1, true), -1);
         due("changes", f.count(8), 40);
         due("a dead one holds", deadOneHolds(), 1);
+        unchangedWhenTheLogIsFull();
+    }
+
+    private static void unchangedWhenTheLogIsFull() {
+        CubeFolk f = folk(0, 9, 0, 0, 1, 0);
+        f.image();
+        for (int k = 0; k < 39; k++) {
+            due("change " + k, f.dead(0, k % 2 == 0), 1);
+        }
+        due("DEAD already, room for one", f.dead(0, true), 0);
+        due("the last change", f.dead(1, true), 1);
+        due("DEAD already, no room", f.dead(0, true), 0);
+        due("the other too", f.dead(1, true), 0);
+        due("well again, no room", f.dead(0, false), -2);
+        due("it stays DEAD", f.about(0, 4), 1);
+        due("nothing was kept", f.count(8), 40);
+        f.restore();
+        due("well already, THE LOG as it was", f.dead(0, false), 0);
+        due("room again", f.dead(0, true), 1);
     }
 
     private static int deadOneHolds() {
